@@ -486,8 +486,9 @@ public final class BellTown {
     private int quietest(int house, int want, int from, int to) {
         int best = NONE;
         int most = NONE;
+        trial.copyFrom(now.ringings);
         for (int minute = from; minute <= to; minute++) {
-            trial.copyFrom(now.ringings);
+            trial.size = now.ringings.size;
             int added = trial.add(minute, house, want, now.wordFor(house, want));
             trial.judge(now, added);
             if (trial.right > most) {
@@ -598,7 +599,9 @@ public final class BellTown {
         private final Ringings ringings = new Ringings();
 
         private Town() {
-            Arrays.fill(words, NONE);
+            for (int at = 0; at < MAX_HOUSES * MAX_WANTS; at++) {
+                words[at] = NONE;
+            }
         }
 
         private void copyFrom(Town other) {
@@ -1573,10 +1576,10 @@ public final class BellTown {
                 int lowest = set & -set;
                 weights[set] = weights[lowest] + (set == lowest ? 0 : weights[set ^ lowest]);
                 sums[set] = 0;
-                for (int part = set - 1 & set; part > 0; part = part - 1 & set) {
-                    int rest = set ^ part;
+                for (int part = 1; part < set; part++) {
+                    int rest = set & ~part;
                     int sum = sums[part] + weights[part] + sums[rest] + 2 * weights[rest];
-                    if (sums[set] == 0 || sum < sums[set]) {
+                    if ((part & set) == part && (sums[set] == 0 || sum < sums[set])) {
                         sums[set] = sum;
                     }
                 }
