@@ -125,6 +125,11 @@ public final class CodesTest {
         // a and b are had by words of 8 strokes alone where nothing can be longer
         BellTown eight = Check.townOf("house 0 0 9 0;want 1;want 1;code 0 0 aaaaaaaa");
         CHECK.due("b beside a WORD of 8", eight.room(0, 1, true), 3);
+        BellTown last = Check.townOf("house 0 0 9 0;want 99;want 99;want 99;want 99;want 99;want 99;want 99;want 99",
+            "want 1;code 0 0 b;code 0 1 ab;code 0 2 aab;code 0 3 aaab;code 0 4 aaaab;code 0 5 aaaaab;"
+            + "code 0 6 aaaaaab;code 0 7 aaaaaaab");
+        CHECK.due("the last WORD of 8 that is left: the sum", last.room(0, 8, false), 8);
+        CHECK.due("the last WORD of 8 that is left", last.room(0, 8, true), 256);
     }
 
     private static String learnt(String tape, int kind) {
@@ -206,6 +211,9 @@ public final class CodesTest {
         BellTown alone = Check.townOf("house 0 0 9 0;house 0 0 9 0;want 2;code 0 0 a");
         CHECK.due("below 0 to the other", alone.sale(0, 3, false), 1);
         CHECK.due("0 at least", alone.sale(0, 3, true), 0);
+        BellTown only = Check.townOf("house 0 0 9 0;want 2");
+        CHECK.due("the only one", only.sale(0, 3, false), 0);
+        CHECK.due("no other one", only.sale(0, 3, true), 0);
         CHECK.due("without HOUSES", Check.townOf("want 1").sale(0, 3, false), -1);
         CHECK.illegal("sale(0, 1, true)", () -> town.sale(0, 1, true));
         CHECK.illegal("sale(0, 512, false)", () -> town.sale(0, 512, false));

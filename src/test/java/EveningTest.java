@@ -73,6 +73,8 @@ public final class EveningTest {
         CHECK.due("hush()", town.hush(), 3);
         CHECK.due("RINGINGS behind hush()", town.count(4), 0);
         CHECK.due("ring behind hush()", town.ring(5, 0, 1), 0);
+        CHECK.due("undo() of the only one", town.undo(), 0);
+        CHECK.due("undo() behind it", town.undo(), -1);
     }
 
     private static void cut() {
@@ -128,6 +130,10 @@ public final class EveningTest {
         town.ring(3, 1, 0);
         CHECK.due("1 hears 0 though it rings itself", town.heard(1, 1), 5);
         CHECK.due("2 does not hear 1, so nothing is mixed there", town.heard(1, 2), 2);
+        town.hush();
+        town.ring(3, 0, 1);
+        town.ring(4, 1, 0);
+        CHECK.due("one that is not heard begins within b", town.heard(0, 2), 3);
     }
 
     private static void sameRinger() {
@@ -277,6 +283,16 @@ public final class EveningTest {
         CHECK.due("evening(1, 3, 0) of three houses", town.evening(1, 3, 0), 2);
         CHECK.due("evening(1, 3, 1) of three houses", town.evening(1, 3, 1), 0);
         CHECK.due("evening(1, 3, 2) of three houses", town.evening(1, 3, 2), 1);
+        BellTown many = Check.townOf("house 0 0 9 0;house 0 1 9 0;house 0 9 9 0;want 1;want 1;code 0 0 ba;code 0 1 b");
+        // SEED 1 of 3 houses, 2 wants: house 1 (none), house 1 (none), house 0 by want 0 at 10: to 1 ba, to 2 b
+        CHECK.due("RIGHT of one that is RIGHT and WRONG", many.evening(1, 3, 0), 1);
+        CHECK.due("WRONG of one that is RIGHT and WRONG", many.evening(1, 3, 1), 1);
+        CHECK.due("it is taken for something", many.evening(1, 3, 2), 0);
+        CHECK.due("only it came", many.evening(1, 3, 3), 1);
+        CHECK.due("two did not come", many.evening(1, 2, 3), 0);
+        BellTown one = Check.townOf("house 0 0 9 0;want 1;code 0 0 a");
+        CHECK.due("of one HOUSE and one WANT all come", one.evening(123456789, 12, 3), 12);
+        CHECK.due("of one HOUSE and one WANT nobody takes any", one.evening(-5, 7, 2), 7);
         BellTown empty = Check.townOf("house 0 0 9 0");
         CHECK.due("without WANTS", empty.evening(1, 12, 3), 0);
         CHECK.noElement("without WANTS, another what", () -> empty.evening(1, 12, 4));

@@ -85,6 +85,11 @@ public final class TextTest {
         townFault(";", 0);
         townFault("  ;", 2);
         townFault("houses 1 1 1 1", 0);
+        townFault("housez 1 1 1 1", 0);
+        townFault("house`1 1 1 1", 5);
+        townFault("house{1 1 1 1", 5);
+        townFault("house 1/1 1 1", 7);
+        townFault("house 1:1 1 1", 7);
         townFault("House 1 1 1 1", 0);
         townFault("house", 5);
         townFault("house  ", 7);

@@ -119,6 +119,13 @@ public final class TogetherTest {
         Check.feed(either, "none 1 0");
         either.town();
         CHECK.due("by the other one", either.ringers(0, 0), 5);
+        // 0 is deaf and need not know; all but 5 and 6 hear 1; 2 is heard by 5, 3 by 6, and 4 by both
+        BellTown fewer = Check.townOf("house 15 15 1 0 deaf;house 5 0 3 0;house 2 0 3 0;house 8 0 3 0;house 5 3 7 0;"
+            + "house 0 1 1 0;house 10 1 1 0;want 1;code 1 0 a;code 2 0 a;code 3 0 a");
+        CHECK.due("two that ring on", fewer.ringers(1, 0), 2 + 4 + 8);
+        Check.feed(fewer, "code 4 0 a");
+        fewer.town();
+        CHECK.due("the fewest, though not the least as bits", fewer.ringers(1, 0), 2 + 16);
     }
 
     private static void sixByNumber() {
@@ -218,6 +225,12 @@ public final class TogetherTest {
         CHECK.due("bits of a SEED below 0", (-1103502900 >> 16 & 0x7fff) % 3, 2);
         CHECK.due("WAITED by lot of -1", town.lot(0, -1, 0), (second(-1103502900) % 2 == 0) ? O201 : O210);
         CHECK.due("the same SEED, the same order", town.lot(0, 1, 0), O201);
+        // of five: 16838 % 5 is 3; of 0 1 2 4: 5758 % 4 is 2; of 0 1 4: 10113 % 3 is 0; of 1 4: 17515 % 2 is 1
+        BellTown five = Check.townOf("house 0 0 30 0;house 0 1 30 0;house 0 2 30 0;house 0 3 30 0;house 0 4 30 0;want 9;"
+            + "code 0 0 a;code 1 0 b;code 2 0 bb;code 3 0 bbbb;code 4 0 bbbbbbbb");
+        CHECK.due("WAITED of 3, 2, 0, 4, 1", five.lot(0, 1, 0), 0 + 8 + 12 + 13 + 29);
+        CHECK.due("OVER of 3, 2, 0, 4, 1", five.lot(0, 1, 1), 31);
+        CHECK.due("WAITED of 0 to 4", five.six(0, 0), 0 + 1 + 3 + 7 + 15);
         // only those that have a WORD are drawn: of 1 and 2 by 16838 the first
         Check.feed(town, "none 0 0");
         town.town();

@@ -93,6 +93,9 @@ public final class TownTest {
         CHECK.due("CLEAR with the gale", town.way(0, 1, 2), 1);
         CHECK.due("FAR against the gale", town.way(1, 0, 0), 8);
         CHECK.due("CLEAR against the gale", town.way(1, 0, 2), 0);
+        BellTown upward = Check.townOf("house 5 2 9 0;house 5 9 9 0;wind 0 4");
+        CHECK.due("FAR upward with the wind", upward.way(1, 0, 0), 3);
+        CHECK.due("FAR downward against it", upward.way(0, 1, 0), 11);
     }
 
     private static void harm() {
@@ -104,6 +107,10 @@ public final class TownTest {
                 CHECK.due("way(" + i + ", " + j + ", 3)", town.way(i, j, 3), due[i][j]);
             }
         }
+        BellTown first = Check.townOf("house 4 0 1 0;house 0 0 4 0;house 8 0 4 0");
+        CHECK.due("the one that hears both is the first", first.way(1, 2, 3), 1);
+        BellTown last = Check.townOf("house 0 0 4 0;house 8 0 4 0;house 4 0 1 0 deaf");
+        CHECK.due("one who is DEAF does not join two", last.way(0, 1, 3), 0);
     }
 
     private static void buying() {
