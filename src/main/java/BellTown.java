@@ -37,6 +37,7 @@ public final class BellTown {
     private final Town kept = new Town();
     private boolean hasImage;
     private final Ringings trial = new Ringings();
+    private final int[] rights = new int[LONGEST_QUIET + 1];
     private final TownText townText = new TownText();
     private final LawText lawText = new LawText();
     private final Sharing sharing = new Sharing();
@@ -308,14 +309,8 @@ public final class BellTown {
         if (strokes < 1 || strokes > MAX_STROKES) {
             throw new IllegalArgumentException("a word has 1 to 8 strokes");
         }
-        int clear = now.clearOf(listener, ringer);
-        int fooling = 0;
-        for (int word = 1 << strokes; word < 2 << strokes; word++) {
-            if (clear > 0 && now.takenFor(ringer, cutTo(word, clear)) != NONE) {
-                fooling++;
-            }
-        }
-        return fooling;
+        int coming = Math.min(strokes, now.clearOf(listener, ringer));
+        return coming == 0 ? 0 : now.wordsOfLength(ringer, coming) << strokes - coming;
     }
 
     public int could(int ringing, int house) throws IndexOutOfBoundsException {
@@ -483,20 +478,26 @@ public final class BellTown {
         }
     }
 
+    /** Goes house by house, so that one listens once for all minutes. */
     private int quietest(int house, int want, int from, int to) {
-        int best = NONE;
-        int most = NONE;
         trial.copyFrom(now.ringings);
-        for (int minute = from; minute <= to; minute++) {
-            trial.size = now.ringings.size;
-            int added = trial.add(minute, house, want, now.wordFor(house, want));
-            trial.judge(now, added);
-            if (trial.right > most) {
-                most = trial.right;
-                best = minute;
+        int added = trial.add(from, house, want, now.wordFor(house, want));
+        Arrays.fill(rights, 0);
+        for (int listener = 0; listener < now.houses; listener++) {
+            trial.listenAt(now, listener);
+            for (int later = 0; later <= to - from && later < rights.length; later++) {
+                if (now.takenFor(house, trial.unmixed(added, from + later)) == want) {
+                    rights[later]++;
+                }
             }
         }
-        return best;
+        int best = 0;
+        for (int later = 0; later <= to - from && later < rights.length; later++) {
+            if (rights[later] > rights[best]) {
+                best = later;
+            }
+        }
+        return from + best;
     }
 
     private int worthTo(int house, int want, int word) {
@@ -735,15 +736,27 @@ public final class BellTown {
         }
 
         private int understoodAt(int listener, int ringer) {
-            int clear = clearOf(listener, ringer);
-            int understood = 0;
-            for (int want = 0; want < wants && clear > 0; want++) {
+            int coming = clearOf(listener, ringer);
+            int pairs = 0;
+            for (int want = 0; want < wants && coming > 0; want++) {
                 int word = wordFor(ringer, want);
-                if (word != NONE && takenFor(ringer, cutTo(word, clear)) == want) {
-                    understood++;
+                if (word != NONE && takenFor(ringer, cutTo(word, coming)) == want) {
+                    pairs++;
                 }
             }
-            return understood;
+            return pairs;
+        }
+
+        /** Words that are alike count once, by the want that they are taken for. */
+        private int wordsOfLength(int house, int strokes) {
+            int found = 0;
+            for (int want = 0; want < wants; want++) {
+                int word = wordFor(house, want);
+                if (strokesOf(word) == strokes && takenFor(house, word) == want) {
+                    found++;
+                }
+            }
+            return found;
         }
 
         private int clashesOf(int house) {
@@ -793,6 +806,7 @@ public final class BellTown {
         private final int[] sought = new int[MAX_RINGINGS];
         private final int[] words = new int[MAX_RINGINGS];
         private final int[] arriving = new int[MAX_RINGINGS];
+        private final int[] overs = new int[MAX_RINGINGS];
         private int right;
         private int wrong;
 
@@ -820,25 +834,28 @@ public final class BellTown {
             return size - 1;
         }
 
-        /** What the way leaves of each ringing, before the strokes mix: 0 of one that is not heard. */
+        /** What the way leaves of each ringing before strokes mix, and when that is over; one unheard never sounds. */
         private void listenAt(Town town, int house) {
             for (int ringing = 0; ringing < size && ringing < MAX_RINGINGS; ringing++) {
-                int clear = town.clearOf(house, ringers[ringing]);
-                arriving[ringing] = clear > 0 ? cutTo(words[ringing], clear) : 0;
+                int coming = town.clearOf(house, ringers[ringing]);
+                arriving[ringing] = coming > 0 ? cutTo(words[ringing], coming) : 0;
+                overs[ringing] = coming > 0 ? minutes[ringing] + minutesOf(arriving[ringing]) : NONE;
             }
         }
 
         private int cameTo(Town town, int ringing, int house) {
-            if (!hasRinging(ringing)) {
-                return 0;
-            }
             listenAt(town, house);
-            int whole = arriving[ringing];
+            return hasRinging(ringing) ? unmixed(ringing, minutes[ringing]) : 0;
+        }
+
+        /** What is left of a ringing, if it begins at a minute, where one has listened to the others. */
+        private int unmixed(int ringing, int begin) {
+            int whole = hasRinging(ringing) ? arriving[ringing] : 0;
             if (whole == 0) {
                 return 0;
             }
             int came = 1;
-            int minute = minutes[ringing];
+            int minute = begin;
             for (int left = strokesOf(whole) - 1; left >= 0; left--) {
                 int stroke = whole >> left & 1;
                 int over = minute + 1 + stroke;
@@ -854,8 +871,7 @@ public final class BellTown {
         /** Strokes follow without a pause, so all that arrives of another one sounds as one stretch. */
         private boolean isMixed(int ringing, int from, int over) {
             for (int other = 0; other < size && other < MAX_RINGINGS; other++) {
-                if (other != ringing && arriving[other] != 0
-                        && minutes[other] < over && from < minutes[other] + minutesOf(arriving[other])) {
+                if (other != ringing && minutes[other] < over && from < overs[other]) {
                     return true;
                 }
             }
@@ -1549,8 +1565,11 @@ public final class BellTown {
         private final int[] weights = new int[1 << MOST_WANTS];
         private final int[] sums = new int[1 << MOST_WANTS];
         private final int[] words = new int[MAX_WANTS];
+        private final int[] lengths = new int[MAX_WANTS];
         private int roomSum;
         private int roomWord;
+        private int waySum;
+        private int wayWord;
 
         private int leastFor(Town town, int wants) {
             int many = 0;
@@ -1596,42 +1615,63 @@ public final class BellTown {
             }
             for (int other = 0; other < MAX_WANTS; other++) {
                 words[other] = town.wordFor(house, other);
+                lengths[other] = strokesOf(words[other]);
             }
-            tryNewWords(town.urgentOf(want), 0);
+            tryWay(town.urgentOf(want), 0);
             for (int other = 0; other < MAX_WANTS; other++) {
                 int word = words[other];
-                if (word != NONE && strokesOf(word) < MAX_STROKES) {
+                if (word != NONE && lengths[other] < MAX_STROKES) {
+                    lengths[other]++;
                     words[other] = word * 2;
-                    tryNewWords(town.urgentOf(want), town.urgentOf(other));
+                    tryWay(town.urgentOf(want), town.urgentOf(other));
                     words[other] = word * 2 + 1;
-                    tryNewWords(town.urgentOf(want), 2 * town.urgentOf(other));
+                    tryWay(town.urgentOf(want), 2 * town.urgentOf(other));
                     words[other] = word;
+                    lengths[other]--;
                 }
             }
         }
 
-        private void tryNewWords(int urgent, int more) {
-            for (int strokes = 1; strokes <= MAX_STROKES; strokes++) {
-                if (roomSum != NONE && more + urgent * strokes >= roomSum) {
-                    return;
-                }
-                for (int word = 1 << strokes; word < 2 << strokes; word++) {
-                    int sum = more + urgent * minutesOf(word);
-                    if ((roomSum == NONE || sum < roomSum) && isFitting(word)) {
-                        roomSum = sum;
-                        roomWord = word;
-                    }
+        private void tryWay(int urgent, int more) {
+            waySum = NONE;
+            wayWord = NONE;
+            tryLonger(1, 0, urgent, more);
+            if (waySum != NONE && (roomSum == NONE || waySum < roomSum)) {
+                roomSum = waySum;
+                roomWord = wayWord;
+            }
+        }
+
+        /** A word that is free has dearer ones behind it, and one that is had only begins: neither is made longer. */
+        private void tryLonger(int begin, int strokes, int urgent, int sum) {
+            for (int stroke = 0; stroke < 2 && strokes < MAX_STROKES; stroke++) {
+                int word = begin * 2 + stroke;
+                int wordSum = sum + urgent * (stroke + 1);
+                int had = lengthBehind(word, strokes + 1);
+                if (had == 0) {
+                    keepIfLess(word, wordSum);
+                } else if (had > strokes + 1) {
+                    tryLonger(word, strokes + 1, urgent, wordSum);
                 }
             }
         }
 
-        private boolean isFitting(int word) {
+        private void keepIfLess(int word, int sum) {
+            if (waySum == NONE || sum < waySum || sum == waySum && word < wayWord) {
+                waySum = sum;
+                wayWord = word;
+            }
+        }
+
+        /** The length of one of the words that begins so; 0 without one. */
+        private int lengthBehind(int begin, int strokes) {
             for (int other = 0; other < MAX_WANTS; other++) {
-                if (words[other] != NONE && isOneBegin(word, words[other])) {
-                    return false;
+                int rest = lengths[other] - strokes;
+                if (words[other] != NONE && rest >= 0 && words[other] >> rest == begin) {
+                    return lengths[other];
                 }
             }
-            return true;
+            return 0;
         }
     }
 
@@ -1697,12 +1737,12 @@ public final class BellTown {
 
         private void tryWords(int kind) {
             if (kind >= kinds || kind >= MOST_KINDS) {
-                countIfFitting();
+                keepWay();
                 return;
             }
             for (int word = LEAST_WORD; word <= GREATEST_LEARNT; word++) {
-                if (isNew(word, kind)) {
-                    words[kind] = word;
+                words[kind] = word;
+                if (isNew(word, kind) && isFitting(kind)) {
                     tryWords(kind + 1);
                 }
             }
@@ -1717,19 +1757,20 @@ public final class BellTown {
             return true;
         }
 
-        private void countIfFitting() {
-            if (!isFitting()) {
-                return;
-            }
+        private void keepWay() {
             if (ways == 0) {
                 System.arraycopy(words, 0, firstWords, 0, MOST_KINDS);
             }
             ways++;
         }
 
-        private boolean isFitting() {
+        /** Whether the words up to a kind fit as far as no later kind has come. */
+        private boolean isFitting(int lastKind) {
             int at = 0;
             for (int want = 0; want < wants; want++) {
+                if (rows[want] > lastKind) {
+                    return true;
+                }
                 int word = words[rows[want]];
                 for (int rest = strokesOf(word) - 1; rest >= 0; rest--) {
                     if (at >= strokes || heard[at] != (word >> rest & 1)) {

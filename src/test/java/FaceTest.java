@@ -123,7 +123,9 @@ public final class FaceTest {
             CHECK.due(one + " has some twenty fields", Arrays.stream(one.getDeclaredFields())
                 .filter(field -> !Modifier.isStatic(field.getModifiers())).count() <= 20, true);
             for (Method method : one.getDeclaredMethods()) {
+                String name = " " + method.getName() + "(";
                 CHECK.due(method + " takes at most seven", method.getParameterCount() <= 7, true);
+                CHECK.due(method + " has a name of its own", FACE.stream().anyMatch(face -> face.contains(name)), false);
             }
         }
     }
