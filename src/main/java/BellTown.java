@@ -1642,7 +1642,7 @@ public final class BellTown {
             }
         }
 
-        /** A word that is free has dearer ones behind it, and one that is had only begins: neither is made longer. */
+        /** Longer than a free word is only dearer, and longer than a word that is had begins with it: neither is tried. */
         private void tryLonger(int begin, int strokes, int urgent, int sum) {
             for (int stroke = 0; stroke < 2 && strokes < MAX_STROKES; stroke++) {
                 int word = begin * 2 + stroke;

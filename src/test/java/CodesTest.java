@@ -101,6 +101,10 @@ public final class CodesTest {
         BellTown ahead = Check.townOf("house 0 0 9 0;want 1;want 1;want 1;code 0 0 a;code 0 1 b");
         CHECK.due("a ahead of b: the sum", ahead.room(0, 2, false), 4);
         CHECK.due("a ahead of b: the WORD ab", ahead.room(0, 2, true), 5);
+        // aab and bb are left, 4 minutes each: the least number, though a is ahead
+        BellTown number = Check.townOf("house 0 0 9 0;want 99;want 99;want 99;want 3;code 0 0 aaa;code 0 1 ab;code 0 2 ba");
+        CHECK.due("the least number: the sum", number.room(0, 3, false), 12);
+        CHECK.due("the least number: the WORD bb", number.room(0, 3, true), 7);
         // the least WANT that is longer first: want 0 has b: to ba 1 + bb 4; want 1 has a: to aa 2 + ab 3
         BellTown first = Check.townOf("house 0 0 9 0;want 1;want 2;want 1;code 0 0 b;code 0 1 a");
         CHECK.due("the least WANT first: the sum", first.room(0, 2, false), 5);

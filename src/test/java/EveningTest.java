@@ -126,6 +126,9 @@ public final class EveningTest {
         town.ring(2, 2, 0);
         town.ring(3, 0, 0);
         CHECK.due("heard(1, 1)", town.heard(1, 1), 5);
+        town.ring(2, 0, 0);
+        CHECK.due("the only stroke that comes mixes", town.heard(2, 1), 1);
+        town.undo();
         CHECK.due("heard(0, 1)", town.heard(0, 1), 2);
         town.ring(3, 1, 0);
         CHECK.due("1 hears 0 though it rings itself", town.heard(1, 1), 5);
@@ -250,6 +253,7 @@ public final class EveningTest {
         CHECK.due("the last minute", town.quiet(0, 0, 999, 999), 999);
         CHECK.due("no WORD", town.quiet(1, 1, 0, 9), -1);
         CHECK.due("RINGINGS stay", town.count(4), 2);
+        quietAtTheEdges();
         CHECK.illegal("61 more", () -> town.quiet(0, 0, 1, 62));
         CHECK.illegal("the second ahead", () -> town.quiet(0, 0, 2, 1));
         CHECK.illegal("a minute below 0", () -> town.quiet(0, 0, -1, 1));
@@ -258,6 +262,20 @@ public final class EveningTest {
         CHECK.illegal("a minute none and no WORD", () -> town.quiet(1, 1, 5, 4));
         CHECK.outOfBounds("quiet(4, 0, 5, 4)", () -> town.quiet(4, 0, 5, 4));
         CHECK.outOfBounds("quiet(0, 3, 5, 4)", () -> town.quiet(0, 3, 5, 4));
+    }
+
+    private static void quietAtTheEdges() {
+        // 1 sounds from 0 to 63: what 2 rings is RIGHT at 1, but at 0 only from 64 on
+        BellTown town = Check.townOf("house 0 0 30 0;house 0 0 30 0;house 0 0 30 0;want 1;want 2;code 1 0 bbbbbbbb;code 2 1 a");
+        for (int minute = 0; minute < 64; minute += 16) {
+            town.ring(minute, 1, 0);
+        }
+        CHECK.due("the last of 60 more", town.quiet(2, 1, 4, 64), 64);
+        CHECK.due("as little RIGHT from the first to the last", town.quiet(2, 1, 3, 63), 3);
+        CHECK.due("the first one", town.quiet(2, 1, 64, 70), 64);
+        CHECK.due("the last of two", town.quiet(2, 1, 63, 64), 64);
+        town.ring(66, 1, 0);
+        CHECK.due("the first of the best", town.quiet(2, 1, 60, 90), 64);
     }
 
     private static void evening() {

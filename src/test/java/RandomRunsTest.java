@@ -82,12 +82,11 @@ public final class RandomRunsTest {
         if (n(12) > 0) {
             same("end(0)", () -> town.end(0) ? 1 : 0, () -> plain.end(0) ? 1 : 0);
         }
-        int before = 0;
         for (int from = 0; from < bytes.length; from += 20) {
             int[] f = Check.numbersOf(bytes, from);
             same("feed", () -> town.feed(f[0], f[1], f[2], f[3], f[4]), () -> plain.feed(f[0], f[1], f[2], f[3], f[4]));
         }
-        int length = before + bytes.length;
+        int length = bytes.length;
         int cut = n(40) == 0 ? length - n(3) + 1 : length;
         same("end(" + cut + ")", () -> town.end(cut) ? 1 : 0, () -> plain.end(cut) ? 1 : 0);
         if (kind == 0) {
