@@ -68,8 +68,8 @@ public final class CodesTest {
 
     private static void leastOfSix() {
         BellTown town = Check.townOf("want 1;want 1;want 1;want 1;want 1;want 1");
-        // two of one URGENT have 3, three 8, four 12 behind a stroke; parted 4 and 2: 12 + 4 x 1 + 3 + 2 x 2,
-        // parted 3 and 3: 8 + 3 x 1 + 8 + 3 x 2
+        // two of one URGENT have 3, three 7, four 12; parted 4 and 2: 12 + 4 x 1 + 3 + 2 x 2,
+        // parted 3 and 3: 7 + 3 x 1 + 7 + 3 x 2
         CHECK.due("six alike", town.least(63), 23);
     }
 
