@@ -1717,7 +1717,7 @@ public final class BellTown {
                 return false;
             }
             int kind = 0;
-            while (kind < kinds && letters[kind] != letter) {
+            while (kind < kinds && kind < MOST_KINDS && letters[kind] != letter) {
                 kind++;
             }
             if (kind >= MOST_KINDS) {
@@ -1767,13 +1767,13 @@ public final class BellTown {
         /** Whether the words up to a kind fit as far as no later kind has come. */
         private boolean isFitting(int lastKind) {
             int at = 0;
-            for (int want = 0; want < wants; want++) {
+            for (int want = 0; want < wants && want < MOST_WANTS; want++) {
                 if (rows[want] > lastKind) {
                     return true;
                 }
                 int word = words[rows[want]];
                 for (int rest = strokesOf(word) - 1; rest >= 0; rest--) {
-                    if (at >= strokes || heard[at] != (word >> rest & 1)) {
+                    if (at >= strokes || at >= MOST_HEARD || heard[at] != (word >> rest & 1)) {
                         return false;
                     }
                     at++;
@@ -1783,7 +1783,7 @@ public final class BellTown {
         }
 
         private int firstWordOf(int kind) {
-            return ways > 0 && kind >= 0 && kind < kinds ? firstWords[kind] : NONE;
+            return ways > 0 && kind >= 0 && kind < MOST_KINDS ? firstWords[kind] : NONE;
         }
     }
 }

@@ -1,3 +1,4 @@
+import java.math.BigInteger;
 import java.nio.charset.StandardCharsets;
 
 /** What all tests share: comparing, counting, and feeding a text. */
@@ -87,6 +88,46 @@ final class Check {
             town.town();
         }
         return town;
+    }
+
+    /** A text of the same line so many times. */
+    static String lines(int many, String line) {
+        StringBuilder text = new StringBuilder();
+        for (int i = 0; i < many; i++) {
+            text.append(i > 0 ? ";" : "").append(line);
+        }
+        return text.toString();
+    }
+
+    /** The strokes of a word that is told as a number. */
+    static String strokes(int word) {
+        return Integer.toBinaryString(word).substring(1).replace('0', 'a').replace('1', 'b');
+    }
+
+    static int number(String strokes) {
+        return Integer.parseInt("1" + strokes.replace('a', '0').replace('b', '1'), 2);
+    }
+
+    static int costOf(int word) {
+        int sum = 0;
+        for (char stroke : strokes(word).toCharArray()) {
+            sum += stroke == 'a' ? 1 : 2;
+        }
+        return sum;
+    }
+
+    /** Draws as the document says it, by numbers that do not go round by themselves. */
+    static final class Draws {
+        private BigInteger seed;
+
+        Draws(int seed) {
+            this.seed = BigInteger.valueOf(seed);
+        }
+
+        int next() {
+            seed = seed.multiply(BigInteger.valueOf(1103515245)).add(BigInteger.valueOf(12345)).mod(BigInteger.ONE.shiftLeft(32));
+            return seed.shiftRight(16).mod(BigInteger.valueOf(32768)).intValue();
+        }
     }
 
     void finish() {

@@ -14,34 +14,25 @@ public final class CodesEdgesTest {
         leastByBits();
         leastOfTwo();
         leastGreatest();
+        leastAgain();
         roomOfTheFirst();
         roomAmongBegins();
         roomOfSevenStrokes();
         roomOfEightStrokes();
         roomForTheTenth();
+        roomOfSeveral();
         strokesHeard();
         wantsThatCame();
         kinds();
         eachByteOfATape();
         wordsLearnt();
         firstLearnt();
+        learntAgain();
         worthOfEachWord();
         worthOfNoWord();
         saleAboveNothing();
         salesAndFees();
         CHECK.finish();
-    }
-
-    private static String strokes(int word) {
-        return Integer.toBinaryString(word).substring(1).replace('0', 'a').replace('1', 'b');
-    }
-
-    private static int costOf(int word) {
-        int sum = 0;
-        for (char stroke : strokes(word).toCharArray()) {
-            sum += stroke == 'a' ? 1 : 2;
-        }
-        return sum;
     }
 
     private static boolean oneBegins(String one, String other) {
@@ -57,8 +48,8 @@ public final class CodesEdgesTest {
     private static void eachPairOfWords() {
         for (int one = 2; one <= 31; one++) {
             for (int other = 2; other <= 31; other++) {
-                String a = strokes(one);
-                String b = strokes(other);
+                String a = Check.strokes(one);
+                String b = Check.strokes(other);
                 BellTown town = Check.townOf("house 0 0 9 0;house 0 0 9 0;want 7;want 5;code 0 0 " + a + ";code 0 1 " + b
                     + ";code 1 0 " + a);
                 boolean begins = oneBegins(a, b);
@@ -68,8 +59,8 @@ public final class CodesEdgesTest {
                     CHECK.due("SAFE of " + a + " and " + b + " at " + d, town.safe(0, d), !cut(a, d).equals(cut(b, d)));
                     CHECK.due("SAFE of one alone", town.safe(1, d), true);
                 }
-                CHECK.due("WORTH of " + b + " beside " + a, town.worth(1, 1, other), begins ? -1000000 : 5 * (17 - costOf(other)));
-                CHECK.due("WORTH of " + b + " in place of " + a, town.worth(1, 0, other), 7 * (costOf(one) - costOf(other)));
+                CHECK.due("WORTH of " + b + " beside " + a, town.worth(1, 1, other), begins ? -1000000 : 5 * (17 - Check.costOf(other)));
+                CHECK.due("WORTH of " + b + " in place of " + a, town.worth(1, 0, other), 7 * (Check.costOf(one) - Check.costOf(other)));
                 CHECK.due("WORTH of what it has", town.worth(0, 1, other), begins ? -1000000 : 0);
             }
         }
@@ -191,6 +182,17 @@ public final class CodesEdgesTest {
         CHECK.due("six unlike", unlike.least(63), 99 + 3 * 33 + 5 * 11 + 7 * 4 + 9 + 10);
     }
 
+    /** What was asked before does not count. */
+    private static void leastAgain() {
+        BellTown town = Check.townOf("want 1;want 1;want 1;want 99;want 99;want 99;want 50");
+        // of all six: aa, ab, ba for 99 each, and bb with 7 behind it for the three of 1; of the last four: bb for 50
+        int[][] asked = {{7, 7}, {56, 7 * 99}, {7, 7}, {63, 8 * 99 + 3 * 4 + 7}, {120, 8 * 99 + 4 * 50}, {3, 3}, {24, 3 * 99},
+            {127, -3}, {64, 50}, {0, 0}, {56, 7 * 99}};
+        for (int[] one : asked) {
+            CHECK.due("LEAST of " + one[0], town.least(one[0]), one[1]);
+        }
+    }
+
     // ROOM: "the least more URGENT times COST"
 
     private static void roomOfTheFirst() {
@@ -282,7 +284,7 @@ public final class CodesEdgesTest {
             int word = 16;
             for (int other = 0; other < 10; other++) {
                 if (other != want) {
-                    text.append(text.length() > 0 ? ";" : "").append("code 0 ").append(other).append(' ').append(strokes(word++));
+                    text.append(text.length() > 0 ? ";" : "").append("code 0 ").append(other).append(' ').append(Check.strokes(word++));
                 }
             }
             // aaaa to abbb and baaa are had, so bb (4) is the least: 4 minutes; bab has 5, baab 5
@@ -290,6 +292,34 @@ public final class CodesEdgesTest {
             CHECK.due("ROOM for a tenth, want " + want + ": the sum", town.room(0, want, false), 4);
             CHECK.due("ROOM for a tenth, want " + want, town.room(0, want, true), 7);
         }
+    }
+
+    // ROOM: "then the least number of the new WORD"
+
+    private static void roomOfSeveral() {
+        // ab and ba are left, of 3 minutes each
+        BellTown town = Check.townOf("house 0 0 9 0;want 99;want 99;want 1;code 0 0 aa;code 0 1 bb");
+        CHECK.due("ab or ba: the sum", town.room(0, 2, false), 3);
+        CHECK.due("ab or ba", town.room(0, 2, true), 5);
+        // aaaa (4 minutes) and bbb (6) are left, and bbb has the lesser number
+        BellTown less = Check.townOf("house 0 0 9 0;want 99;want 99;want 99;want 99;want 99;want 1;code 0 0 aaab;code 0 1 aab;"
+            + "code 0 2 ab;code 0 3 ba;code 0 4 bba");
+        CHECK.due("aaaa or bbb: the sum", less.room(0, 5, false), 4);
+        CHECK.due("aaaa or bbb", less.room(0, 5, true), 16);
+        // aaaaaa (6 minutes) and bbb (6) are left
+        BellTown alike = Check.townOf("house 0 0 9 0;want 99;want 99;want 99;want 99;want 99;want 99;want 99;want 1;code 0 0 aaaaab",
+            "code 0 1 aaaab;code 0 2 aaab;code 0 3 aab;code 0 4 ab;code 0 5 ba;code 0 6 bba");
+        CHECK.due("aaaaaa or bbb: the sum", alike.room(0, 7, false), 6);
+        CHECK.due("aaaaaa or bbb", alike.room(0, 7, true), 15);
+        // aaaa, aaba and abba are left of 4, 5 and 6 minutes
+        BellTown first = Check.townOf("house 0 0 9 0;want 99;want 99;want 99;want 99;want 99;want 1;code 0 0 aaab;code 0 1 aabb;"
+            + "code 0 2 aba;code 0 3 abbb;code 0 4 b");
+        CHECK.due("of three: the sum", first.room(0, 5, false), 4);
+        CHECK.due("of three", first.room(0, 5, true), 16);
+        Check.feed(first, "code 0 0 aaaa");
+        first.town();
+        CHECK.due("aaab or aaba: the sum", first.room(0, 5, false), 5);
+        CHECK.due("aaab or aaba", first.room(0, 5, true), 17);
     }
 
     private static String learnt(String tape, int kind) {
@@ -375,7 +405,7 @@ public final class CodesEdgesTest {
 
     private static void wordsLearnt() {
         for (int word = 2; word <= 31; word++) {
-            String row = strokes(word);
+            String row = Check.strokes(word);
             CHECK.due("ways of " + row, learnt(row + " A", -1), word <= 15 ? "1" : "0");
             CHECK.due("the WORD of " + row, learnt(row + " A", 0), word <= 15 ? Integer.toString(word) : "-1");
         }
@@ -407,6 +437,20 @@ public final class CodesEdgesTest {
         CHECK.due("C of ababb ABC", learnt("ababb ABC", 2), "11");
     }
 
+    /** What was on the TAPE before does not count. */
+    private static void learntAgain() {
+        BellTown town = new BellTown();
+        String[][] tapes = {{"aaabbbabaaaabbbaba ABCABC", "-1", "1"}, {"aab AB", "-1", "2"}, {"aab AB", "2", IAE}, {"ab A", "0", "5"},
+            {"aaaaaa ABC", "-1", "6"}, {"aaaaaa ABCD", "-1", IAE}, {"aaaa AB", "-1", "2"}, {"abababab AAAAAAA", "-1", IAE}, {"aa AA", "-1", "1"},
+            {"aa AB", "-1", "0"}, {"aa AB", "0", "-1"}, {"b Z", "0", "3"}, {"", "-1", IAE}, {"aaa ZA", "1", "4"}, {"bbbbb A", "-1", "0"},
+            {"bbbbb A", "0", "-1"}};
+        for (String[] one : tapes) {
+            Check.feed(town, one[0]);
+            int kind = Integer.parseInt(one[1]);
+            CHECK.due("learn(" + kind + ") of '" + one[0] + "'", Check.answer(() -> town.learn(kind)), one[2]);
+        }
+    }
+
     // WORTH: "(COST of what it has, or 17 without, less that WORD's COST)"
 
     private static void worthOfEachWord() {
@@ -419,11 +463,11 @@ public final class CodesEdgesTest {
                 CHECK.illegal("fee of " + word, () -> town.sale(0, w, true));
                 continue;
             }
-            CHECK.due("WORTH without a WORD of " + word, town.worth(0, 0, word), 99 * (17 - costOf(word)));
-            CHECK.due("WORTH in place of a of " + word, town.worth(1, 0, word), 99 * (1 - costOf(word)));
-            CHECK.due("WORTH in place of bbbbbbbb of " + word, town.worth(2, 0, word), 99 * (16 - costOf(word)));
+            CHECK.due("WORTH without a WORD of " + word, town.worth(0, 0, word), 99 * (17 - Check.costOf(word)));
+            CHECK.due("WORTH in place of a of " + word, town.worth(1, 0, word), 99 * (1 - Check.costOf(word)));
+            CHECK.due("WORTH in place of bbbbbbbb of " + word, town.worth(2, 0, word), 99 * (16 - Check.costOf(word)));
             CHECK.due("SALE of " + word, town.sale(0, word, false), 0);
-            CHECK.due("FEE of " + word, town.sale(0, word, true), 99 * (16 - costOf(word)));
+            CHECK.due("FEE of " + word, town.sale(0, word, true), 99 * (16 - Check.costOf(word)));
         }
         for (int word : FAR_OFF) {
             BellTown town = Check.townOf("house 0 0 9 0;want 99");

@@ -1,5 +1,3 @@
-import java.math.BigInteger;
-
 /** Promises 12 to 17, 30 to 33 and 36, edge by edge: each bound at the case itself and on both sides of it. */
 public final class EveningEdgesTest {
     private static final Check CHECK = new Check("EveningEdgesTest");
@@ -12,6 +10,8 @@ public final class EveningEdgesTest {
         ringingsAtMost();
         undone();
         noWordAnyMore();
+        ringingsOverTexts();
+        ringingsOfTheImage();
         cutByClear();
         mixedOrNot();
         threeThatMix();
@@ -29,16 +29,10 @@ public final class EveningEdgesTest {
         quietAmongRingings();
         manyOfAnEvening();
         drawnEvenings();
+        drawnMinutes();
+        eveningsAmongRingings();
         eveningsOfNothing();
         CHECK.finish();
-    }
-
-    private static String strokes(int word) {
-        return Integer.toBinaryString(word).substring(1).replace('0', 'a').replace('1', 'b');
-    }
-
-    private static int number(String strokes) {
-        return Integer.parseInt("1" + strokes.replace('a', '0').replace('b', '1'), 2);
     }
 
     // Promise 12: "IllegalArgumentException: the minute is none" (0 to 999)
@@ -107,6 +101,66 @@ public final class EveningEdgesTest {
         CHECK.illegal("ring of a WORD traded for none", () -> town.ring(0, 1, 0));
     }
 
+    /** 1 rings aab for want 2 at 7, of which 0 hears all, and 2 the first stroke, which is its word for want 1. */
+    private static BellTown rungBySecond() {
+        BellTown town = Check.townOf("house 0 1 1 0;house 0 0 7 0;house 5 0 1 0;want 1;want 1;want 1;code 1 0 b;code 1 1 a;"
+            + "code 1 2 aab;code 0 0 b");
+        town.ring(30, 1, 0);
+        town.ring(7, 1, 2);
+        return town;
+    }
+
+    private static void isRungBySecond(String when, BellTown town) {
+        CHECK.due("RINGINGS " + when, town.count(4), 2);
+        CHECK.due("what came to 0 " + when, town.heard(1, 0), 9);
+        CHECK.due("what came to 2 " + when, town.heard(1, 2), 2);
+        CHECK.due("taken at 0 " + when, town.taken(1, 0), 2);
+        CHECK.due("taken at 2 " + when, town.taken(1, 2), 1);
+        CHECK.due("could be at 2 " + when, town.could(1, 2), 6);
+        CHECK.due("RIGHT " + when, town.sure(1, false), 1);
+        CHECK.due("WRONG " + when, town.sure(1, true), 1);
+        CHECK.due("RIGHT of the other " + when, town.sure(0, false), 2);
+        CHECK.due("what came to the ringer " + when, town.heard(1, 1), 0);
+        CHECK.due("QUIET " + when, town.quiet(1, 0, 6, 12), 11);
+    }
+
+    /** A RINGING has the minute, the HOUSE, the WANT and the WORD that were told, whatever comes behind. */
+    private static void ringingsOverTexts() {
+        BellTown town = rungBySecond();
+        isRungBySecond("at first", town);
+        Check.feed(town, "want 9");
+        town.town();
+        isRungBySecond("behind a text", town);
+        Check.feed(town, "code 0 0 bb;wind 0 0;bell");
+        CHECK.illegal("a wrong text", town::town);
+        isRungBySecond("behind a wrong text", town);
+        Check.feed(town, "first 5");
+        town.law();
+        Check.feed(town, "want 9");
+        town.town();
+        isRungBySecond("behind a LAW and a text", town);
+        town.evening(3, 12, 0);
+        isRungBySecond("behind a DRAWN EVENING", town);
+        town.ring(7, 0, 0);
+        CHECK.due("undo()", town.undo(), 2);
+        isRungBySecond("behind undo()", town);
+    }
+
+    private static void ringingsOfTheImage() {
+        BellTown town = rungBySecond();
+        town.image();
+        town.hush();
+        town.ring(100, 0, 0);
+        town.ring(200, 1, 1);
+        CHECK.due("back()", town.back(), true);
+        isRungBySecond("behind back()", town);
+        town.hush();
+        Check.feed(town, "none 1 2;wind 9 9");
+        town.town();
+        CHECK.due("back()", town.back(), true);
+        isRungBySecond("behind back() again", town);
+    }
+
     // Terms: "so many STROKES of a WORD, from the first on, come to I; the rest is cut"
 
     private static void cutByClear() {
@@ -119,7 +173,7 @@ public final class EveningEdgesTest {
                 BellTown town = Check.townOf("house 0 0 " + loud + " 0;house " + place + " 1 0;want 1;code 0 0 " + word);
                 CHECK.due("CLEAR", town.way(1, 0, 2), clear);
                 town.ring(7, 0, 0);
-                int came = clear == 0 ? 0 : number(word.substring(0, Math.min(clear, length)));
+                int came = clear == 0 ? 0 : Check.number(word.substring(0, Math.min(clear, length)));
                 CHECK.due("heard of " + word + " by CLEAR " + clear, town.heard(0, 1), came);
                 CHECK.due("taken of " + word + " by CLEAR " + clear, town.taken(0, 1), clear >= length ? 0 : -1);
                 CHECK.due("heard by itself", town.heard(0, 0), 0);
@@ -135,14 +189,14 @@ public final class EveningEdgesTest {
     private static void mixedOrNot() {
         for (int one = 2; one <= 15; one++) {
             for (int other = 2; other <= 15; other++) {
-                BellTown town = Check.townOf("house 0 0 30 0;house 0 0 30 0;house 0 0 30 0;want 1;code 0 0 " + strokes(one)
-                    + ";code 1 0 " + strokes(other));
+                BellTown town = Check.townOf("house 0 0 30 0;house 0 0 30 0;house 0 0 30 0;want 1;code 0 0 " + Check.strokes(one)
+                    + ";code 1 0 " + Check.strokes(other));
                 for (int apart = -8; apart <= 8; apart++) {
                     town.ring(20, 0, 0);
                     town.ring(20 + apart, 1, 0);
-                    String call = strokes(one) + " and " + strokes(other) + " " + apart + " later: ";
-                    CHECK.due(call + "the first", town.heard(0, 2), ahead(strokes(one), 20, strokes(other), 20 + apart));
-                    CHECK.due(call + "the second", town.heard(1, 2), ahead(strokes(other), 20 + apart, strokes(one), 20));
+                    String call = Check.strokes(one) + " and " + Check.strokes(other) + " " + apart + " later: ";
+                    CHECK.due(call + "the first", town.heard(0, 2), ahead(Check.strokes(one), 20, Check.strokes(other), 20 + apart));
+                    CHECK.due(call + "the second", town.heard(1, 2), ahead(Check.strokes(other), 20 + apart, Check.strokes(one), 20));
                     CHECK.due(call + "the first to the second's", town.heard(0, 1), one);
                     town.hush();
                 }
@@ -161,12 +215,12 @@ public final class EveningEdgesTest {
             int last = word.charAt(n) == 'a' ? at : at + 1;
             for (int m = at; m <= last; m++) {
                 if (m >= its && m < over) {
-                    return number(word.substring(0, n));
+                    return Check.number(word.substring(0, n));
                 }
             }
             at = last + 1;
         }
-        return number(word);
+        return Check.number(word);
     }
 
     private static void threeThatMix() {
@@ -320,12 +374,12 @@ public final class EveningEdgesTest {
             CHECK.due("without a WORD", town.understood(0), 0);
             StringBuilder words = new StringBuilder();
             for (int want = 0; want < 10; want++) {
-                words.append(want > 0 ? ";" : "").append("code 0 ").append(want).append(' ').append(strokes(20 + want));
+                words.append(want > 0 ? ";" : "").append("code 0 ").append(want).append(' ').append(Check.strokes(20 + want));
             }
             Check.feed(town, words.toString());
             town.town();
             CHECK.due("ten WORDS and " + (many - 1) + " others", town.understood(0), 10 * (many - 1));
-            Check.feed(town, "code 0 3 " + strokes(29));
+            Check.feed(town, "code 0 3 " + Check.strokes(29));
             town.town();
             CHECK.due("two alike: the least alone", town.understood(0), 9 * (many - 1));
         }
@@ -467,14 +521,6 @@ public final class EveningEdgesTest {
         }
     }
 
-    private static BigInteger seed;
-
-    /** As the document says it: times, and, as an int that goes round; bits 16 to 30. */
-    private static int draw() {
-        seed = seed.multiply(BigInteger.valueOf(1103515245)).add(BigInteger.valueOf(12345)).mod(BigInteger.ONE.shiftLeft(32));
-        return seed.shiftRight(16).mod(BigInteger.valueOf(32768)).intValue();
-    }
-
     // A DRAWN EVENING: "DRAW modulo 20 its minute, one modulo how many HOUSES there are, one modulo how many WANTS"
 
     private static void drawnEvenings() {
@@ -494,14 +540,14 @@ public final class EveningEdgesTest {
     }
 
     private static int[] drawn(int first, int n) {
-        seed = BigInteger.valueOf(first);
+        Check.Draws draws = new Check.Draws(first);
         int[] minutes = new int[n];
         int[] wants = new int[n];
         int[] due = new int[4];
         for (int i = 0; i < n; i++) {
-            minutes[i] = draw() % 20;
-            int house = draw() % 3;
-            int want = draw() % 4;
+            minutes[i] = draws.next() % 20;
+            int house = draws.next() % 3;
+            int want = draws.next() % 4;
             boolean comes = house == 0 && want != 2 || house == 2 && want == 0;
             wants[i] = !comes ? -1 : house == 2 ? 9 : want;
             due[3] += comes ? 1 : 0;
@@ -518,6 +564,52 @@ public final class EveningEdgesTest {
             due[2] += wants[i] >= 0 && !heard ? 1 : 0;
         }
         return due;
+    }
+
+    /** Two that hear one stroke of each other: mixed is what the same one begins in the same minute. */
+    private static void drawnMinutes() {
+        for (int n = 0; n < 40; n++) {
+            int first = n * 107374182 - 12;
+            BellTown town = Check.townOf("house 0 0 1 0;house 0 1 1 0;want 1;code 0 0 a;code 1 0 a");
+            Check.Draws draws = new Check.Draws(first);
+            int[] places = new int[12];
+            for (int i = 0; i < 12; i++) {
+                int minute = draws.next() % 20;
+                places[i] = 2 * minute + draws.next() % 2;
+                CHECK.due("of one WANT", draws.next() % 1, 0);
+            }
+            int alone = 0;
+            for (int i = 0; i < 12; i++) {
+                int alike = 0;
+                for (int j = 0; j < 12; j++) {
+                    alike += places[j] == places[i] ? 1 : 0;
+                }
+                alone += alike == 1 ? 1 : 0;
+            }
+            CHECK.due("RIGHT of twelve by " + first, town.evening(first, 12, 0), alone);
+            CHECK.due("WRONG of twelve by " + first, town.evening(first, 12, 1), 0);
+            CHECK.due("taken for nothing of twelve by " + first, town.evening(first, 12, 2), 12 - alone);
+        }
+    }
+
+    // A DRAWN EVENING: "nothing stays, those that are there being gone for it"
+
+    private static void eveningsAmongRingings() {
+        BellTown town = Check.townOf("house 0 0 9 0;house 0 1 9 0;want 1;code 0 0 a;code 1 0 a");
+        int[] due = new int[4];
+        for (int what = 0; what < 4; what++) {
+            due[what] = town.evening(31, 12, what);
+        }
+        CHECK.due("all twelve come", due[3], 12);
+        for (int n = 0; n < 12; n++) {
+            town.ring(n, n % 2, 0);
+            for (int what = 0; what < 4; what++) {
+                CHECK.due("evening among " + (n + 1), town.evening(31, 12, what), due[what]);
+            }
+            CHECK.due("RINGINGS that stay", town.count(4), n + 1);
+        }
+        CHECK.due("the RINGINGS are as they were", town.heard(3, 0), 2);
+        CHECK.unsupported("a 13th RINGING", () -> town.ring(0, 0, 0));
     }
 
     // Promise 36: "0 without HOUSES or WANTS"

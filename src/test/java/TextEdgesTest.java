@@ -64,14 +64,6 @@ public final class TextEdgesTest {
         return town;
     }
 
-    private static String joined(int lines, String line) {
-        StringBuilder text = new StringBuilder();
-        for (int i = 0; i < lines; i++) {
-            text.append(i > 0 ? ";" : "").append(line);
-        }
-        return text.toString();
-    }
-
     // Promise 2: "NONE, and none come, if it would have more than 400"
 
     private static void feedUpTo400() {
@@ -199,18 +191,18 @@ public final class TextEdgesTest {
     private static void numbersThatTellNone() {
         for (int many = 0; many <= 8; many++) {
             for (int n = 0; n <= 12; n++) {
-                BellTown town = Check.townOf(joined(many, "house 0 0 1 0"), "want 1");
+                BellTown town = Check.townOf(Check.lines(many, "house 0 0 1 0"), "want 1");
                 reads(town, "code " + n + " 0 ab", 3, n < many ? RIGHT : 5);
-                BellTown other = Check.townOf(joined(many, "house 0 0 1 0"), "want 1");
+                BellTown other = Check.townOf(Check.lines(many, "house 0 0 1 0"), "want 1");
                 reads(other, "none " + n + " 0", 3, n < many ? RIGHT : 5);
                 CHECK.due("WORDS of all", town.count(5), n < many ? 1 : 0);
             }
         }
         for (int many = 0; many <= 10; many++) {
             for (int n = 0; n <= 12; n++) {
-                BellTown town = Check.townOf("house 0 0 1 0", joined(many, "want 1"));
+                BellTown town = Check.townOf("house 0 0 1 0", Check.lines(many, "want 1"));
                 reads(town, "code 0 " + n + " ab", 3, n < many ? RIGHT : 7);
-                BellTown other = Check.townOf("house 0 0 1 0", joined(many, "want 1"));
+                BellTown other = Check.townOf("house 0 0 1 0", Check.lines(many, "want 1"));
                 reads(other, "none 0 " + n, 3, n < many ? RIGHT : 7);
                 CHECK.due("WORDS of all", town.count(5), n < many ? 1 : 0);
             }
@@ -299,28 +291,28 @@ public final class TextEdgesTest {
 
     private static void linesOfTowns() {
         for (int lines = 1; lines <= 17; lines++) {
-            BellTown town = town(joined(lines, "wind 1 " + lines % 10), lines <= 14 ? RIGHT : 14 * 9);
+            BellTown town = town(Check.lines(lines, "wind 1 " + lines % 10), lines <= 14 ? RIGHT : 14 * 9);
             CHECK.due("WIND's Y of " + lines, town.count(9), lines <= 14 ? lines % 10 : 0);
-            town(joined(lines, "wind 1 1") + ";", Math.min(lines, 14) * 9);
-            town(joined(lines, "wind 1 1") + " ; ", lines <= 14 ? lines * 9 + 2 : 14 * 9);
+            town(Check.lines(lines, "wind 1 1") + ";", Math.min(lines, 14) * 9);
+            town(Check.lines(lines, "wind 1 1") + " ; ", lines <= 14 ? lines * 9 + 2 : 14 * 9);
         }
-        town(joined(14, "wind 1 1") + "; gale 1 1", 14 * 9 + 1);
-        town(joined(14, "wind 1 1") + ";  7", 14 * 9 + 2);
-        town(joined(13, "wind 1 1") + ";;gale 1 1", 13 * 9);
-        town(joined(14, "wind 1 1") + " wind", 14 * 9);
-        town(joined(13, "wind 1 1") + ";wind 1", 13 * 9 + 6);
+        town(Check.lines(14, "wind 1 1") + "; gale 1 1", 14 * 9 + 1);
+        town(Check.lines(14, "wind 1 1") + ";  7", 14 * 9 + 2);
+        town(Check.lines(13, "wind 1 1") + ";;gale 1 1", 13 * 9);
+        town(Check.lines(14, "wind 1 1") + " wind", 14 * 9);
+        town(Check.lines(13, "wind 1 1") + ";wind 1", 13 * 9 + 6);
     }
 
     private static void linesOfLaws() {
         for (int lines = 1; lines <= 15; lines++) {
-            BellTown town = law(joined(lines, "first 1"), lines <= 12 ? RIGHT : 12 * 8);
+            BellTown town = law(Check.lines(lines, "first 1"), lines <= 12 ? RIGHT : 12 * 8);
             CHECK.due("LINES of " + lines, town.count(3), lines <= 12 ? lines : -1);
-            law(joined(lines, "first 1") + ";", Math.min(lines, 12) * 8);
+            law(Check.lines(lines, "first 1") + ";", Math.min(lines, 12) * 8);
         }
-        law(joined(12, "first 1") + ";  first 1", 12 * 8 + 2);
-        law(joined(12, "first 1") + ";if", 12 * 8);
-        law(joined(11, "first 1") + ";first", 11 * 8 + 5);
-        law(joined(11, "first 1") + ";first 1 if 1<2", RIGHT);
+        law(Check.lines(12, "first 1") + ";  first 1", 12 * 8 + 2);
+        law(Check.lines(12, "first 1") + ";if", 12 * 8);
+        law(Check.lines(11, "first 1") + ";first", 11 * 8 + 5);
+        law(Check.lines(11, "first 1") + ";first 1 if 1<2", RIGHT);
     }
 
     // Terms: "HOUSES (at most 8 ..", "WANTS (at most 10 ..", "of a HOUSE, WANT too many, the first word"
@@ -328,13 +320,13 @@ public final class TextEdgesTest {
     private static void housesAtMost() {
         for (int first = 0; first <= 8; first++) {
             for (int more = 0; more <= 10; more++) {
-                BellTown town = Check.townOf(joined(first, "house 0 0 1 0"));
+                BellTown town = Check.townOf(Check.lines(first, "house 0 0 1 0"));
                 boolean may = first + more <= 8;
-                reads(town, joined(more, "house 1 1 1 1"), 2, may ? RIGHT : (8 - first) * 14);
+                reads(town, Check.lines(more, "house 1 1 1 1"), 2, may ? RIGHT : (8 - first) * 14);
                 CHECK.due("HOUSES of " + first + " and " + more, town.count(0), may ? first + more : first);
             }
         }
-        BellTown full = Check.townOf(joined(8, "house 0 0 1 0"));
+        BellTown full = Check.townOf(Check.lines(8, "house 0 0 1 0"));
         reads(full, "wind 1 1; house bell", 2, 10);
         reads(full, "want 1", 2, RIGHT);
     }
@@ -342,13 +334,13 @@ public final class TextEdgesTest {
     private static void wantsAtMost() {
         for (int first = 0; first <= 10; first++) {
             for (int more = 0; more <= 12; more++) {
-                BellTown town = Check.townOf(joined(first, "want 2"));
+                BellTown town = Check.townOf(Check.lines(first, "want 2"));
                 boolean may = first + more <= 10;
-                reads(town, joined(more, "want 3"), 2, may ? RIGHT : (10 - first) * 7);
+                reads(town, Check.lines(more, "want 3"), 2, may ? RIGHT : (10 - first) * 7);
                 CHECK.due("WANTS of " + first + " and " + more, town.count(1), may ? first + more : first);
             }
         }
-        BellTown full = Check.townOf(joined(10, "want 1"));
+        BellTown full = Check.townOf(Check.lines(10, "want 1"));
         reads(full, "wind 1 1; want bell", 2, 10);
         reads(full, "house 1 1 1 1", 2, RIGHT);
     }

@@ -1,4 +1,3 @@
-import java.math.BigInteger;
 import java.util.ArrayList;
 import java.util.List;
 
@@ -22,6 +21,7 @@ public final class TogetherEdgesTest {
         relayOfTheWholeWord();
         relayOfOneThatKnows();
         relayOfEachWant();
+        relayThoughMixed();
         ringersInARow();
         ringersAndTheDeaf();
         ringersOfTheSamePlace();
@@ -33,6 +33,8 @@ public final class TogetherEdgesTest {
         sixOfEight();
         turnsByOne();
         turnsOfAllLines();
+        linesWithoutIf();
+        lawInPlace();
         factsAtTheEdge();
         costAtTheEdge();
         waitedAtTheEdge();
@@ -191,6 +193,24 @@ public final class TogetherEdgesTest {
         CHECK.illegal("the first one has none", () -> town.relay(0, 1, 2));
         CHECK.illegal("the first one has none, for ringers", () -> town.ringers(0, 1));
         CHECK.due("the second one has one", town.relay(1, 1, 2), 1);
+    }
+
+    // RELAY: "(MIXED strokes are not looked at.)"; nor are RINGINGS that were told, in SIX neither
+
+    private static void relayThoughMixed() {
+        // 1 and 2 know at 1 and ring on at once, so that all their strokes are mixed to 3
+        BellTown town = Check.townOf("house 5 0 2 0;house 4 1 4 0;house 6 1 4 0;house 5 4 1 0;want 1;code 0 0 a;code 1 0 b;code 2 0 b");
+        for (int ringings = 0; ringings <= 12; ringings += 4) {
+            CHECK.due("relay to 1 with " + ringings, town.relay(0, 0, 1), 1);
+            CHECK.due("relay to 3 with " + ringings, town.relay(0, 0, 3), 3);
+            CHECK.due("ringers with " + ringings, town.ringers(0, 0), 3);
+            CHECK.due("WAITED with " + ringings, town.six(0, 0), 0 + 1 + 3);
+            CHECK.due("OVER with " + ringings, town.six(0, 1), 5);
+            CHECK.due("lot's OVER with " + ringings, town.lot(0, 5, 1), 5);
+            for (int n = 0; n < 4 && ringings < 12; n++) {
+                town.ring(n, n % 3, 0);
+            }
+        }
     }
 
     // RINGERS: "the fewest HOUSES, the first one in it, so that all HOUSES that are not DEAF know it"
@@ -370,6 +390,38 @@ public final class TogetherEdgesTest {
         CHECK.due("the first LINE counts", waited("first 1 if house > 0" + ";first 0".repeat(11), 0, 1), 2);
     }
 
+    /** A LINE without if holds for all, whatever the LINE ahead of it says. */
+    private static void linesWithoutIf() {
+        CHECK.due("behind one that holds for 1", waited("first 3 if house < 1;first 1 if house > 0;first 5", 0, 1), 1);
+        CHECK.due("behind one that holds for 0", waited("first 3 if house > 0;first 1 if house < 1;first 5", 0, 1), 2);
+        CHECK.due("ahead of one that holds for 1", waited("first 5;first 1 if house > 0", 0, 1), 2);
+        CHECK.due("between two", waited("first 3 if house > 0;first 9;first 2 if house < 1", 0, 1), 2);
+    }
+
+    // LAW: "(a text, in place of the one before)"
+
+    private static void lawInPlace() {
+        BellTown town = Check.townOf("house 0 0 9 0;house 0 0 9 0;want 1;code 0 0 a;code 1 0 b");
+        String long1 = "first 1 if house>0 and 1" + "+1".repeat(180) + ">180";
+        String[] laws = {"first 1 if house > 0", "first 1 if house > 0;first 9 if house < 1", "first 1 if house > 0", "",
+            "first 0;".repeat(11) + "first 7 if house > 0", "first 1", long1, "first 2 if house < 1", long1, long1, long1,
+            "first 9 if house < 1;first 10 if house > 0", "first 9 if house < 1", "first 1 if not (house < 1)"};
+        int[] due = {2, 1, 2, 1, 2, 1, 2, 1, 2, 2, 2, 2, 1, 2};
+        for (int i = 0; i < laws.length; i++) {
+            law(town, laws[i]);
+            CHECK.due("WAITED by LAW " + i, town.six(0, 0), due[i]);
+            Check.feed(town, "first 500 if house < 1;first 500 if house < 1;bell");
+            CHECK.illegal("a wrong LAW", town::law);
+            CHECK.due("WAITED by LAW " + i + " behind a wrong one", town.six(0, 0), due[i]);
+            if (i == 6) {
+                town.image();
+            }
+        }
+        town.back();
+        CHECK.due("WAITED by the LAW of THE IMAGE", town.six(0, 0), 2);
+        CHECK.due("LINES of the LAW of THE IMAGE", town.count(3), 1);
+    }
+
     private static void factsAtTheEdge() {
         for (int coins : new int[] {0, 1, 2, 500, 998, 999}) {
             for (int k = Math.max(0, coins - 1); k <= Math.min(999, coins + 1); k++) {
@@ -458,22 +510,15 @@ public final class TogetherEdgesTest {
         CHECK.due("53 ors", waited("first 1 if 1<1" + " or 1<1".repeat(52) + " or 0<house", 0, 1), 2);
     }
 
-    private static BigInteger seed;
-
-    private static int draw() {
-        seed = seed.multiply(BigInteger.valueOf(1103515245)).add(BigInteger.valueOf(12345)).mod(BigInteger.ONE.shiftLeft(32));
-        return seed.shiftRight(16).mod(BigInteger.valueOf(32768)).intValue();
-    }
-
     /** WAITED of houses that all harm each other, each of its own COST, in the order that a seed draws. */
     private static int waitedByLot(int first, List<Integer> costs) {
-        seed = BigInteger.valueOf(first);
+        Check.Draws draws = new Check.Draws(first);
         List<Integer> left = new ArrayList<>(costs);
         int minute = 0;
         int waited = 0;
         while (!left.isEmpty()) {
             waited += minute;
-            minute += left.remove(draw() % left.size());
+            minute += left.remove(draws.next() % left.size());
         }
         return waited;
     }

@@ -29,14 +29,6 @@ public final class TownEdgesTest {
         CHECK.finish();
     }
 
-    private static String joined(int lines, String line) {
-        StringBuilder text = new StringBuilder();
-        for (int i = 0; i < lines; i++) {
-            text.append(i > 0 ? ";" : "").append(line);
-        }
-        return text.toString();
-    }
-
     private static void tell(BellTown town, String text) {
         Check.feed(town, text);
         CHECK.due("town() of '" + text + "'", Check.answer(town::town), Integer.toString(town.count(2)));
@@ -64,7 +56,7 @@ public final class TownEdgesTest {
     }
 
     private static void wordsOfAHouse() {
-        BellTown town = Check.townOf(joined(2, "house 0 0 1 0"), joined(10, "want 1"));
+        BellTown town = Check.townOf(Check.lines(2, "house 0 0 1 0"), Check.lines(10, "want 1"));
         CHECK.due("no WORD at first", town.house(0, 5), 0);
         StringBuilder text = new StringBuilder();
         for (int want = 0; want < 10; want++) {
@@ -81,7 +73,7 @@ public final class TownEdgesTest {
     // Terms: "CODE: of each HOUSE and WANT a WORD, or none (none at first)"
 
     private static void eachCode() {
-        BellTown town = Check.townOf(joined(8, "house 0 0 1 0"), joined(10, "want 1"));
+        BellTown town = Check.townOf(Check.lines(8, "house 0 0 1 0"), Check.lines(10, "want 1"));
         for (int house = 0; house < 8; house++) {
             for (int want = 0; want < 10; want++) {
                 CHECK.due("none at first", town.code(house, want), -1);
@@ -91,7 +83,7 @@ public final class TownEdgesTest {
             StringBuilder text = new StringBuilder();
             for (int want = 0; want < 10; want++) {
                 text.append(want > 0 ? ";" : "").append("code ").append(house).append(' ').append(want).append(' ')
-                    .append(strokes(100 + house * 10 + want));
+                    .append(Check.strokes(100 + house * 10 + want));
             }
             tell(town, text.toString());
         }
@@ -100,23 +92,11 @@ public final class TownEdgesTest {
             for (int want = 0; want < 10; want++) {
                 int word = 100 + house * 10 + want;
                 CHECK.due("code(" + house + ", " + want + ")", town.code(house, want), word);
-                costs += costOf(word);
+                costs += Check.costOf(word);
             }
         }
         CHECK.due("80 WORDS of all", town.count(5), 80);
         CHECK.due("COST of all WORDS", town.count(10), costs);
-    }
-
-    private static String strokes(int word) {
-        return Integer.toBinaryString(word).substring(1).replace('0', 'a').replace('1', 'b');
-    }
-
-    private static int costOf(int word) {
-        int sum = 0;
-        for (char stroke : strokes(word).toCharArray()) {
-            sum += stroke == 'a' ? 1 : 2;
-        }
-        return sum;
     }
 
     private static void codesInPlace() {
@@ -136,7 +116,7 @@ public final class TownEdgesTest {
             for (int word = from; word < from + 175; word++) {
                 int w = word;
                 if (word >= 2 && word <= 511) {
-                    CHECK.due("cost(" + word + ")", town.cost(word), costOf(word));
+                    CHECK.due("cost(" + word + ")", town.cost(word), Check.costOf(word));
                 } else {
                     CHECK.illegal("cost(" + word + ")", () -> town.cost(w));
                 }
@@ -301,9 +281,9 @@ public final class TownEdgesTest {
                 CHECK.due("and the other way", town.way(other, one, 3), place == 5 ? 1 : 0);
             }
         }
-        BellTown eight = Check.townOf("house 0 0 5 0;house 10 0 5 0;" + joined(5, "house 15 15 1 0") + ";house 5 0 1 0");
+        BellTown eight = Check.townOf("house 0 0 5 0;house 10 0 5 0;" + Check.lines(5, "house 15 15 1 0") + ";house 5 0 1 0");
         CHECK.due("HARM by the eighth", eight.way(0, 1, 3), 1);
-        BellTown seven = Check.townOf("house 0 0 5 0;house 10 0 5 0;" + joined(5, "house 15 15 1 0") + ";house 5 1 1 0");
+        BellTown seven = Check.townOf("house 0 0 5 0;house 10 0 5 0;" + Check.lines(5, "house 15 15 1 0") + ";house 5 1 1 0");
         CHECK.due("one step off", seven.way(0, 1, 3), 0);
     }
 
@@ -319,7 +299,7 @@ public final class TownEdgesTest {
                 CHECK.illegal("buy of " + word + " without COINS", () -> town.buy(1, 0, w));
                 continue;
             }
-            int price = due[costOf(word)];
+            int price = due[Check.costOf(word)];
             CHECK.due("buy of " + word, town.buy(0, 0, word), price);
             CHECK.due("COINS behind it", town.house(0, 3), 999 - price);
             CHECK.due("COINS of the council", town.count(7), price);
@@ -520,7 +500,7 @@ public final class TownEdgesTest {
         for (int what = 0; what <= 10; what++) {
             CHECK.due("count(" + what + ") later", town.count(what), later[what]);
         }
-        BellTown full = Check.townOf(joined(8, "house 15 15 30 999"), joined(10, "want 99"));
+        BellTown full = Check.townOf(Check.lines(8, "house 15 15 30 999"), Check.lines(10, "want 99"));
         CHECK.due("COINS of eight", full.count(6), 7992);
         CHECK.due("HOUSES", full.count(0), 8);
         CHECK.due("WANTS", full.count(1), 10);
