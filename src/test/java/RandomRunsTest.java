@@ -3,13 +3,15 @@ import java.util.Random;
 
 /** Long runs of drawn calls, each answered by BellTown and by PlainTown alike; every seed is fixed. */
 public final class RandomRunsTest {
-    private static final int CALLS = 500;
+    /** An object is good for 512 calls, of which telling a text may take forty. */
+    private static final int LAST_BEGIN = 512 - 40;
 
     private final Check check;
     private final Random random;
     private final int run;
     private final BellTown town = new BellTown();
     private final PlainTown plain = new PlainTown();
+    private int calls;
     private int houses;
     private int wants;
 
@@ -20,7 +22,7 @@ public final class RandomRunsTest {
     }
 
     public static void main(String[] args) {
-        int runs = args.length > 0 ? Integer.parseInt(args[0]) : 300;
+        int runs = args.length > 0 ? Integer.parseInt(args[0]) : 900;
         int from = args.length > 1 ? Integer.parseInt(args[1]) : 0;
         Check check = new Check("RandomRunsTest");
         for (int run = from; run < from + runs; run++) {
@@ -34,7 +36,7 @@ public final class RandomRunsTest {
         for (int i = 0; i < texts; i++) {
             tell(townText(), 0);
         }
-        for (int call = 0; call < CALLS; call++) {
+        while (calls <= LAST_BEGIN) {
             if (random.nextInt(60) == 0) {
                 tell(townText(), 0);
             } else if (random.nextInt(30) == 0) {
@@ -48,6 +50,7 @@ public final class RandomRunsTest {
     }
 
     private void same(String call, Check.Call got, Check.Call due) {
+        calls++;
         check.due("run " + run + ": " + call, Check.answer(got), Check.answer(due));
     }
 
@@ -393,6 +396,7 @@ public final class RandomRunsTest {
                 break;
             case 17:
                 if (n(3) == 0) {
+                    calls++;
                     town.image();
                     plain.image();
                 }

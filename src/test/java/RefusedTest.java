@@ -170,25 +170,22 @@ public final class RefusedTest {
             (t, i) -> traded(t, i, i, 0), (t, i) -> t.relay(i, 0, i), (t, i) -> t.ringers(i, 0), (t, i) -> t.room(i, 0, true),
             (t, i) -> t.quiet(i, 0, 0, 0), (t, i) -> t.worth(i, 0, 2), (t, i) -> t.heard(0, i), (t, i) -> t.taken(0, i),
             (t, i) -> t.could(0, i), (t, i) -> t.sure(i, true)};
-        BellTown none = new BellTown();
-        BellTown houses = sized(8, 0, 0);
-        BellTown wants = sized(0, 10, 0);
         for (Indexed call : byHouse) {
-            indices("of no house", call, 0, none, false);
-            indices("of no house, there being wants", call, 0, wants, false);
-            indices("of eight houses and no want", call, 8, houses, false);
+            indices("of no house", call, 0, new BellTown(), false);
+            indices("of no house, there being wants", call, 0, sized(0, 10, 0), false);
+            indices("of eight houses and no want", call, 8, sized(8, 0, 0), false);
         }
         for (Indexed call : byWant) {
-            indices("of no want", call, 0, none, false);
-            indices("of no want, there being houses", call, 0, houses, false);
-            indices("of ten wants and no house", call, 10, wants, false);
+            indices("of no want", call, 0, new BellTown(), false);
+            indices("of no want, there being houses", call, 0, sized(8, 0, 0), false);
+            indices("of ten wants and no house", call, 10, sized(0, 10, 0), false);
         }
         for (Indexed call : byBoth) {
-            indices("of nothing", call, 0, none, false);
-            indices("of no want", call, 0, houses, false);
-            indices("of no house", call, 0, wants, false);
+            indices("of nothing", call, 0, new BellTown(), false);
+            indices("of no want", call, 0, sized(8, 0, 0), false);
+            indices("of no house", call, 0, sized(0, 10, 0), false);
         }
-        indices("colours of nothing", (t, i) -> t.colours(i), 0, none, true);
+        indices("colours of nothing", (t, i) -> t.colours(i), 0, new BellTown(), true);
     }
 
     private static void is(String call, BellTown town, Call it, String due) {

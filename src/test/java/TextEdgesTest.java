@@ -33,6 +33,7 @@ public final class TextEdgesTest {
         textsOf400();
         blanks();
         faultOfTheLatest();
+        upToTheLastCall();
         CHECK.finish();
     }
 
@@ -583,5 +584,23 @@ public final class TextEdgesTest {
         reads(town, "", 2, RIGHT);
         reads(town, "wind 1", 0, 6);
         reads(town, "", LAW, RIGHT);
+    }
+
+    // "An object is used for at most 512 calls after it has been made"
+
+    private static void upToTheLastCall() {
+        BellTown town = new BellTown();
+        for (int n = 0; n < 166; n++) {
+            CHECK.due("feed", town.feed(n, n, n, n, n), 20);
+            CHECK.due("end", town.end(0), true);
+            town.image();
+        }
+        for (int n = 1; n <= 10; n++) {
+            CHECK.due("town", town.town(), n);
+        }
+        CHECK.due("end of none, the 509th", town.end(1), false);
+        CHECK.unsupported("town, the 510th", town::town);
+        CHECK.due("back, the 511th", town.back(), true);
+        CHECK.due("texts, the 512th", town.count(2), 0);
     }
 }
