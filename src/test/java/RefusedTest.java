@@ -1,19 +1,18 @@
+import java.util.Map;
+
 /**
  * The sentence ahead of promise 1, for every call: which indices there are, which of several exceptions is thrown, and that
- * a call that throws (and one that only asks) changes nothing but the TAPE, where it is used up.
+ * a call that throws changes nothing but the TAPE, where it is used up. What other calls change is in StaysTest.
  */
 public final class RefusedTest {
     private static final Check CHECK = new Check("RefusedTest");
+    private static final Seen SEEN = new Seen(CHECK);
     private static final String IOB = "throws.IndexOutOfBoundsException";
     private static final String IAE = "throws.IllegalArgumentException";
     private static final String UOE = "throws.UnsupportedOperationException";
     private static final String NSE = "throws.NoSuchElementException";
     private static final int[] FAR_OFF = {Integer.MIN_VALUE, Integer.MIN_VALUE + 1, -256, -8, -2, 11, 12, 256, 1 << 16,
         Integer.MAX_VALUE};
-
-    private interface Call {
-        long of(BellTown town);
-    }
 
     private interface Indexed {
         long of(BellTown town, int index);
@@ -28,8 +27,6 @@ public final class RefusedTest {
         toldFirstOfTexts();
         refusedChangesNothing();
         refusedTextsChangeNothing();
-        askedChangesNothing();
-        nothingHappens();
         CHECK.finish();
     }
 
@@ -188,7 +185,7 @@ public final class RefusedTest {
         indices("colours of nothing", (t, i) -> t.colours(i), 0, new BellTown(), true);
     }
 
-    private static void is(String call, BellTown town, Call it, String due) {
+    private static void is(String call, BellTown town, Seen.Call it, String due) {
         CHECK.due(call, Check.answer(() -> it.of(town)), due);
     }
 
@@ -268,72 +265,8 @@ public final class RefusedTest {
         is("learn: no such kind of no such TAPE", town, t -> t.learn(7), IAE);
     }
 
-    private static final String ON_TAPE = "want 9;wind 3 2";
-
-    /** As three, with a law, a council, an image of before, and a text on the tape. */
-    private static BellTown rich(int ringings) {
-        BellTown town = three(1);
-        Check.feed(town, "bell");
-        is("a wrong text", town, t -> t.town(), IAE);
-        town.image();
-        Check.feed(town, "first 3 if house > 0;first 9 if cost > 2 and not waited < 1");
-        town.law();
-        Check.feed(town, "gale 1 0");
-        town.town();
-        for (int n = 1; n < ringings; n++) {
-            town.ring(n * 3, n % 2, 0);
-        }
-        town.buy(0, 1, 7);
-        Check.feed(town, "want 5;bell");
-        is("a wrong text", town, t -> t.town(), IAE);
-        Check.feed(town, ON_TAPE);
-        return town;
-    }
-
-    /** Asks few things twice, as an object is good for 512 calls alone. */
-    private static String stateOf(BellTown town) {
-        StringBuilder all = new StringBuilder();
-        int[] counts = new int[11];
-        for (int what = 0; what <= 10; what++) {
-            counts[what] = town.count(what);
-            all.append(counts[what]).append(' ');
-        }
-        for (int house = 0; house < counts[0]; house++) {
-            for (int what = 0; what <= 5; what++) {
-                all.append(town.house(house, what)).append(' ');
-            }
-            for (int want = 0; want < counts[1]; want++) {
-                all.append(town.code(house, want)).append(' ');
-            }
-            all.append(town.way(0, house, 2)).append(' ');
-            for (int ringing = 0; ringing < counts[4]; ringing++) {
-                all.append(town.heard(ringing, house)).append(' ');
-            }
-        }
-        for (int want = 0; want < counts[1]; want++) {
-            all.append(town.want(want)).append(' ').append(town.six(want, 0)).append(' ').append(town.six(want, 1)).append(' ');
-        }
-        return all.append(counts[4] > 0 ? town.sure(0, false) : 0).toString();
-    }
-
-    /** Looks at all that there is, then at the tape, then at the image. */
-    private static void nothingChanges(String name, int ringings, Call call, String due) {
-        BellTown town = rich(ringings);
-        String before = stateOf(town);
-        is(name, town, call, due);
-        CHECK.due("what there is behind " + name, stateOf(town), before);
-        CHECK.due("fault() behind " + name, town.fault(), 7);
-        CHECK.due("one more on the TAPE behind " + name, town.end(ON_TAPE.length() + 1), false);
-        CHECK.due("the TAPE behind " + name, town.end(ON_TAPE.length()), true);
-        CHECK.due("the text on the TAPE behind " + name, Check.answer(town::town), "3");
-        CHECK.due("its want behind " + name, town.want(2), 9);
-        CHECK.due("its WIND behind " + name, town.count(8) * 10 + town.count(9), 32);
-        CHECK.due("back() behind " + name, town.back(), true);
-        CHECK.due("THE IMAGE behind " + name, stateOf(town), stateOf(three(1)));
-    }
-
-    private static void refused(String name, Call call, String due) {
-        nothingChanges(name, 3, call, due);
+    private static void refused(String name, Seen.Call call, String due) {
+        SEEN.nothingChanges(name, 3, call, due);
     }
 
     // "a call that throws changes nothing but the TAPE, where it is used up"
@@ -349,7 +282,7 @@ public final class RefusedTest {
         refused("ring(0, 3, 0)", t -> t.ring(0, 3, 0), IOB);
         refused("ring(1000, 0, 0)", t -> t.ring(1000, 0, 0), IAE);
         refused("ring(0, 2, 0)", t -> t.ring(0, 2, 0), IAE);
-        nothingChanges("a 13th ring", 12, t -> t.ring(0, 0, 0), UOE);
+        SEEN.nothingChanges("a 13th ring", 12, t -> t.ring(0, 0, 0), UOE);
         refused("heard(3, 0)", t -> t.heard(3, 0), IOB);
         refused("taken(3, 0)", t -> t.taken(3, 0), IOB);
         refused("sure(3, true)", t -> t.sure(3, true), IOB);
@@ -363,7 +296,7 @@ public final class RefusedTest {
         refused("relay(0, 0, 3)", t -> t.relay(0, 0, 3), IOB);
         refused("relay(2, 0, 0)", t -> t.relay(2, 0, 0), IAE);
         refused("ringers(0, 2)", t -> t.ringers(0, 2), IOB);
-        refused("ringers(1, 1)", t -> t.ringers(1, 1), IAE);
+        refused("ringers(2, 1)", t -> t.ringers(2, 1), IAE);
         refused("six(2, 0)", t -> t.six(2, 0), IOB);
         refused("six(0, 2)", t -> t.six(0, 2), NSE);
         refused("lot(2, 1, 0)", t -> t.lot(2, 1, 0), IOB);
@@ -376,7 +309,7 @@ public final class RefusedTest {
         refused("understood(3)", t -> t.understood(3), IOB);
         refused("quiet(0, 2, 0, 0)", t -> t.quiet(0, 2, 0, 0), IOB);
         refused("quiet(0, 0, 0, 61)", t -> t.quiet(0, 0, 0, 61), IAE);
-        nothingChanges("quiet with 12", 12, t -> t.quiet(0, 0, 0, 60), UOE);
+        SEEN.nothingChanges("quiet with 12", 12, t -> t.quiet(0, 0, 0, 60), UOE);
         refused("worth(3, 0, 2)", t -> t.worth(3, 0, 2), IOB);
         refused("worth(0, 0, 1)", t -> t.worth(0, 0, 1), IAE);
         refused("sale(2, 2, true)", t -> t.sale(2, 2, true), IOB);
@@ -385,23 +318,23 @@ public final class RefusedTest {
         refused("evening(1, 12, 4)", t -> t.evening(1, 12, 4), NSE);
     }
 
-    private static void refusedText(String text, Call call, String due, int texts, int fault) {
-        BellTown town = rich(3);
-        for (int n = 2; n < texts; n++) {
+    private static void refusedText(String text, Seen.Call call, String due, int texts, int fault) {
+        for (boolean isRich : new boolean[] {true, false}) {
+            String name = "'" + text + "'" + (isRich ? " in a rich town" : " in a plain town");
+            BellTown town = isRich ? Seen.rich(3) : Seen.plain(3);
             town.end(0);
-            town.town();
+            for (int n = town.count(2); n < texts; n++) {
+                town.town();
+            }
+            Map<String, String> before = Seen.of(town);
+            Check.feed(town, "bell");
+            is("a wrong law", town, t -> t.law(), IAE);
+            Check.feed(town, text);
+            is(name, town, call, due);
+            SEEN.same("what there is behind " + name, Seen.of(town), Seen.changed(before, "fault()", "" + fault));
+            SEEN.tapeIsEmpty(name, town);
+            SEEN.imageIsUntouched(name, town, isRich);
         }
-        String before = stateOf(town);
-        Check.feed(town, "bell");
-        is("a wrong law", town, t -> t.law(), IAE);
-        Check.feed(town, text);
-        is("'" + text + "'", town, call, due);
-        CHECK.due("what there is behind '" + text + "'", stateOf(town), before);
-        CHECK.due("fault() behind '" + text + "'", town.fault(), fault);
-        CHECK.due("the TAPE behind '" + text + "'", town.end(1), false);
-        CHECK.due("feed behind '" + text + "'", town.feed(0, 0, 0, 0, 0), 20);
-        CHECK.due("back() behind '" + text + "'", town.back(), true);
-        CHECK.due("THE IMAGE behind '" + text + "'", stateOf(town), stateOf(three(1)));
     }
 
     // Terms: "Of a wrong text nothing stays"
@@ -421,51 +354,5 @@ public final class RefusedTest {
         refusedText("abc A", t -> t.learn(-1), IAE, 2, 0);
         refusedText("ab A", t -> t.learn(1), IAE, 2, 0);
         refusedText("ab A", t -> t.learn(-2), IAE, 2, 0);
-    }
-
-    private static void asked(String name, Call call) {
-        nothingChanges(name, 3, call, Check.answer(() -> call.of(rich(3))));
-    }
-
-    /** What only asks leaves all as it is; so do QUIET, ROOM, SALE, a DRAWN EVENING and six o'clock, which try things out. */
-    private static void askedChangesNothing() {
-        asked("way(0, 1, 3)", t -> t.way(0, 1, 3));
-        asked("least(3)", t -> t.least(3));
-        asked("colours(2)", t -> t.colours(2));
-        asked("relay(0, 0, 1)", t -> t.relay(0, 0, 1));
-        asked("ringers(0, 0)", t -> t.ringers(0, 0));
-        asked("lot(0, 5, 0)", t -> t.lot(0, 5, 0));
-        asked("room(1, 1, true)", t -> t.room(1, 1, true));
-        asked("room(2, 0, false)", t -> t.room(2, 0, false));
-        asked("fooled(0, 1, 8)", t -> t.fooled(0, 1, 8));
-        asked("could(0, 1)", t -> t.could(0, 1));
-        asked("understood(0)", t -> t.understood(0));
-        asked("quiet(0, 0, 0, 60)", t -> t.quiet(0, 0, 0, 60));
-        asked("quiet(2, 0, 0, 60)", t -> t.quiet(2, 0, 0, 60));
-        asked("worth(1, 1, 2)", t -> t.worth(1, 1, 2));
-        asked("sale(1, 2, true)", t -> t.sale(1, 2, true));
-        asked("sale(1, 2, false)", t -> t.sale(1, 2, false));
-        for (int n = 1; n <= 12; n++) {
-            int many = n;
-            asked("evening of " + n, t -> t.evening(77, many, 0));
-        }
-    }
-
-    // Promises 2, 3, 14, 20 and 38: ".. and nothing happens"
-
-    private static void nothingHappens() {
-        asked("end(-1)", t -> t.end(-1) ? 1 : 0);
-        asked("end of one more", t -> t.end(ON_TAPE.length() + 1) ? 1 : 0);
-        nothingChanges("buy without COINS enough", 3, t -> t.buy(2, 0, 2), "-1");
-        nothingChanges("buy in place of a WORD without COINS enough", 3, t -> t.buy(0, 0, 2), "-1");
-        BellTown town = three(0);
-        String before = stateOf(town);
-        CHECK.due("undo() without a RINGING", town.undo(), -1);
-        CHECK.due("hush() without a RINGING", town.hush(), 0);
-        CHECK.due("back() without THE IMAGE", town.back(), false);
-        CHECK.due("what there is", stateOf(town), before);
-        Check.feed(town, "bell");
-        CHECK.due("back() without THE IMAGE", town.back(), false);
-        CHECK.due("the TAPE behind back()", town.end(4), true);
     }
 }

@@ -36,6 +36,7 @@ public final class TogetherEdgesTest {
         linesWithoutIf();
         lawInPlace();
         factsAtTheEdge();
+        factsOfEachWant();
         costAtTheEdge();
         waitedAtTheEdge();
         sumsAtTheEdge();
@@ -449,6 +450,26 @@ public final class TogetherEdgesTest {
         CHECK.due("29 coins > 28", paid.six(0, 0), 2);
         law(paid, "first 1 if coins > 29");
         CHECK.due("29 coins > 29", paid.six(0, 0), 1);
+    }
+
+    /** URGENT and COST are of the WANT that is told, and COST of the WORD that the HOUSE itself has for it. */
+    private static void factsOfEachWant() {
+        BellTown town = Check.townOf("house 0 0 9 0;house 0 0 9 0;want 3;want 50;want 99;code 0 0 a;code 0 1 aaa;code 0 2 bbb;"
+            + "code 1 0 b;code 1 1 bb;code 1 2 aaaaa");
+        int[] urgent = {3, 50, 99};
+        int[] ofFirst = {1, 3, 6};
+        int[] ofSecond = {2, 4, 5};
+        for (int want = 0; want < 3; want++) {
+            for (int k = 2; k <= 99; k += k < 7 ? 1 : 23) {
+                law(town, "first 1 if house > 0 and urgent > " + k);
+                CHECK.due("urgent of " + want + " > " + k, town.six(want, 0), urgent[want] > k ? ofSecond[want] : ofFirst[want]);
+            }
+            for (int k = 0; k <= 7; k++) {
+                law(town, "first 1 if cost > " + k);
+                boolean secondAlone = ofSecond[want] > k && ofFirst[want] <= k;
+                CHECK.due("cost for " + want + " > " + k, town.six(want, 0), secondAlone ? ofSecond[want] : ofFirst[want]);
+            }
+        }
     }
 
     private static void costAtTheEdge() {

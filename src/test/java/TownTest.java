@@ -14,7 +14,6 @@ public final class TownTest {
         trading();
         imageAndBack();
         counts();
-        readme();
         CHECK.finish();
     }
 
@@ -226,16 +225,5 @@ public final class TownTest {
         Check.feed(town, "");
         town.law();
         CHECK.due("LINES of an empty LAW", town.count(3), 0);
-    }
-
-    private static void readme() {
-        BellTown town = new BellTown();
-        town.feed(0x686f7573, 0x65203020, 0x30203920, 0x35303b77, 0x616e7420);
-        town.feed(0x37000000, 0, 0, 0, 0);
-        town.end(21);
-        CHECK.due("README: town()", town.town(), 1);
-        CHECK.due("README: house(0, 2)", town.house(0, 2), 9);
-        CHECK.due("README: buy(0, 0, 5)", town.buy(0, 0, 5), 14);
-        CHECK.due("README: ring(0, 0, 0)", town.ring(0, 0, 0), 0);
     }
 }
