@@ -275,6 +275,19 @@ public final class CodesEdgesTest {
             DOWN_TO_SEVEN + ";code 0 7 aaaaaaab;code 0 8 aaaaaaaa");
         CHECK.due("one of seven becomes eight: the sum", seven.room(0, 9, false), 11);
         CHECK.due("one of seven becomes eight: aaaaaabb", seven.room(0, 9, true), 259);
+        // one of eight keeps no other from being longer: a to ab (2) with aa (198), while ba would be 297
+        for (int eight = 0; eight < 3; eight++) {
+            int one = (eight + 1) % 3;
+            int none = (eight + 2) % 3;
+            String[] urgent = {"", "", ""};
+            urgent[eight] = "want 99";
+            urgent[one] = "want 1";
+            urgent[none] = "want 99";
+            BellTown beside = Check.townOf("house 0 0 9 0;" + String.join(";", urgent),
+                "code 0 " + eight + " bbbbbbbb;code 0 " + one + " a");
+            CHECK.due("beside one of eight: the sum", beside.room(0, none, false), 200);
+            CHECK.due("beside one of eight: aa", beside.room(0, none, true), 4);
+        }
     }
 
     private static void roomForTheTenth() {
